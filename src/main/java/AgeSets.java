@@ -695,11 +695,12 @@ public final class AgeSets {
 
     private int sureKept(Law law, Man he, int period) {
         switch (law.kind) {
+            case GRADE:
+            case MARRY: return he.sureOfGrade(period, law.n, TOP_GRADE);
             case MOST: return he.sureOfGrade(period, 0, law.n);
             case TURN: return timesHeld(he, law.office, period - law.n, period) == 0 ? SURELY : NOT;
             case HALVES: return he.half == period % 2 ? SURELY : NOT;
-            case TIME: return sureOfBirth(he, IN_TIME);
-            default: return he.sureOfGrade(period, law.n, TOP_GRADE);
+            default: return sureOfBirth(he, IN_TIME);
         }
     }
 

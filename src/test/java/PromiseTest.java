@@ -149,6 +149,9 @@ public final class PromiseTest {
         due(1, x.span(0, 16, 16, 7));
         // By the old span man 0 is unborn in period 1; his son is of grade 0 by both.
         due(0, x.span(0, 0, 0, 1));
+        AgeSets y = withMen(1);
+        due(1, y.span(0, 8, 8, 1));
+        due(1, y.span(0, 0, 0, 1));
     }
 
     private static void p5Death() {
@@ -382,6 +385,7 @@ public final class PromiseTest {
         due(2, x.could(0, 0, 10));
         due(2, x.could(0, 1, 4));
         x.law(11, 3, 0, 10);
+        due(2, x.could(0, 1, 2));
         due(2, x.could(0, 1, 5));
         due(1, x.could(0, 1, 6));
         due(0, x.could(0, 1, 7));
@@ -544,6 +548,11 @@ public final class PromiseTest {
         due(6, v.fill(99));
         due(5, v.holder(5, 99));
         due(6, v.count(2));
+        v.law(0, 11, 0, 20);
+        due(5, v.fill(3));
+        due(-2, v.holder(0, 3));
+        due(0, v.holder(1, 3));
+        due(4, v.holder(5, 3));
     }
 
     private static void p20Room() {
@@ -598,12 +607,13 @@ public final class PromiseTest {
         x.put(0, 5, 99);
         x.put(0, 4, 7);
         x.put(1, 2, 7);
-        x.put(1, 1, 0);
-        due(1, x.breach(0));
+        x.put(1, 0, 0);
+        due(0, x.breach(0));
         due(72, x.breach(1));
         due(74, x.breach(2));
         due(995, x.breach(3));
         due(-3, x.breach(4));
+        due(4, x.breaches());
         due(-3, x.breach(GREATEST));
         due(-1, x.breach(-1));
         due(-1, x.breach(LEAST));
@@ -733,6 +743,13 @@ public final class PromiseTest {
         due(4, y.best());
         y.son(0, 96, 96);
         due(6, y.best());
+        AgeSets z = new AgeSets();
+        z.man(0, 0, 0);
+        z.son(0, 144, 144);
+        due(9, z.best());
+        z.son(0, 16, 16);
+        z.son(0, 16, 16);
+        due(2, z.best());
     }
 
     private static void p28Owes() {
@@ -787,7 +804,7 @@ public final class PromiseTest {
         for (int year = 0; year < 800; year++) {
             int isLong = (7 * year + 1) % 19 < 7 ? 1 : 0;
             all += isLong;
-            if (year % 19 < 12) {
+            if (year < 190) {
                 due(isLong, x.moons(year, year));
             }
         }
@@ -866,6 +883,8 @@ public final class PromiseTest {
         dueThrow(IllegalStateException.class, () -> x.element(7, 12));
         x.span(1, 0, 0, 0);
         due(1, x.element(7, 5));
+        x.keep(7, 4, 99);
+        due(3, x.element(7, 11));
     }
 
     private static void p33Make() {
