@@ -1,60 +1,5 @@
 /** Of each promise: ordinary inputs, the edges that the document names, and wrong inputs. */
-public final class PromiseTest {
-    private static final int LEAST = Integer.MIN_VALUE;
-    private static final int GREATEST = Integer.MAX_VALUE;
-
-    private interface Call {
-        long answer();
-    }
-
-    private static int promise;
-    private static int checks;
-    private static int wrong;
-
-    private static void due(long want, long got) {
-        checks++;
-        if (want != got) {
-            wrong++;
-            StackTraceElement place = new Throwable().getStackTrace()[1];
-            System.out.println("promise " + promise + ", line " + place.getLineNumber()
-                    + ": answered " + got + ", due is " + want);
-        }
-    }
-
-    private static void dueThrow(Class<?> want, Call call) {
-        checks++;
-        String got;
-        try {
-            got = "answered " + call.answer();
-        } catch (RuntimeException e) {
-            if (e.getClass() == want) {
-                return;
-            }
-            got = "threw " + e.getClass().getName();
-        }
-        wrong++;
-        StackTraceElement place = new Throwable().getStackTrace()[1];
-        System.out.println("promise " + promise + ", line " + place.getLineNumber()
-                + ": " + got + ", due is a throw of " + want.getName());
-    }
-
-    /** Man 0 born in 0, his son 1 in 40, his son's son 2 in 80: each grade 0 at birth. */
-    private static AgeSets threeInLine() {
-        AgeSets x = new AgeSets();
-        x.man(0, 0, 0);
-        x.son(0, 40, 40);
-        x.son(1, 80, 80);
-        return x;
-    }
-
-    private static AgeSets withMen(int n) {
-        AgeSets x = new AgeSets();
-        for (int i = 0; i < n; i++) {
-            x.man(0, 0, 0);
-        }
-        return x;
-    }
-
+public final class PromiseTest extends Checks {
     private static void p1NewObject() {
         AgeSets x = new AgeSets();
         for (int what = 0; what < 5; what++) {
@@ -1011,7 +956,7 @@ public final class PromiseTest {
     }
 
     private static void run(int number) {
-        promise = number;
+        tested = "promise " + number;
         switch (number) {
             case 1: p1NewObject(); break;
             case 2: p2Man(); break;
@@ -1058,9 +1003,6 @@ public final class PromiseTest {
         for (int number = 1; number <= 37; number++) {
             run(number);
         }
-        System.out.println(checks + " checks, " + wrong + " wrong");
-        if (wrong != 0) {
-            System.exit(1);
-        }
+        tellEnd();
     }
 }
