@@ -107,6 +107,11 @@ public final class EdgeTest extends Checks {
             AgeSets x = withMen(1);
             due(0, x.span(0, 8, 8, 12));
             due(1, x.span(0, 16, 16, 12));
+            // From 10 to 0, from 0 to 1, from 1 to 11, and from 11 to 0.
+            due(1, x.span(0, 96, 96, 12));
+            due(1, x.span(0, 88, 88, 12));
+            due(1, x.span(0, 0, 0, 12));
+            due(1, x.span(0, 96, 96, 12));
             AgeSets y = withMen(1);
             y.son(0, 0, 1);
             // The son's step is below 0 by both.
@@ -471,6 +476,12 @@ public final class EdgeTest extends Checks {
             due(5, y.best());
             y.span(1, 8 * 19, 8 * 19, 0);
             due(5, y.best());
+            AgeSets z = new AgeSets();
+            z.man(0, 0, 0);
+            z.son(0, 8, 8);
+            z.son(0, 24, 24);
+            // 1 keeps the one alone, 2 and 3 the other alone.
+            due(3, z.best());
         });
         says("promise 27: then the lesser", () -> {
             AgeSets x = new AgeSets();

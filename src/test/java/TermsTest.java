@@ -787,6 +787,15 @@ public final class TermsTest extends Checks {
             close(x, 0, 2, 4);
             due(2, x.fill(11));
             holdersDue(x, 11, -2, 0, -2, 1, -2, -2);
+            // Forty men, and none of them for any office: all live, all are of grade 3.
+            AgeSets y = withMen(40);
+            for (int office = 0; office < 6; office++) {
+                y.law(office, 4, 0, 20);
+            }
+            due(0, y.room(3));
+            due(0, y.fill(3));
+            due(0, y.count(2));
+            due(6, y.fill(4));
         });
     }
 
