@@ -39,6 +39,13 @@ abstract class Checks {
         tellWrong(got + ", due is a throw of " + want.getName());
     }
 
+    protected static void dueTrue(String what, boolean holds) {
+        checks++;
+        if (!holds) {
+            tellWrong("does not hold: " + what);
+        }
+    }
+
     private static void tellWrong(String what) {
         wrong++;
         // 0 is this method, 1 the check, 2 the line of the test.
